@@ -4,7 +4,7 @@ import java.util.Random;
 
 /** Runs of calls drawn by a fixed seed, each answered by the class and by the slow model. */
 public final class AgainstModelTest {
-    private static final int RUNS = 400;
+    private static final int RUNS = 200;
     private static final int CALLS = 512;
 
     private final Random random;
@@ -32,7 +32,7 @@ public final class AgainstModelTest {
                 ask(random.nextInt(25));
             }
         }
-        compareAll();
+        Compare.all(name, x, model);
     }
 
     private void due(String call, long got, long want) {
@@ -145,31 +145,6 @@ public final class AgainstModelTest {
 
     private void howMany(int n, int k, int dim) {
         due("howMany", x.howMany(n, k, dim), model.howMany(n, k, dim));
-    }
-
-    private void compareAll() {
-        for (int i = -1; i <= 9; i++) {
-            due("f", x.f(i), model.f(i));
-            due("neck", x.neck(i), model.neck(i));
-            due("part", x.part(i), model.part(i));
-            due("count", x.count(i), model.count(i));
-            due("has", x.has(i), model.has(i));
-            for (int j = -1; j <= 9; j++) {
-                due("box", x.box(i, j), model.box(i, j));
-            }
-        }
-        for (int set = -1; set <= 256; set++) {
-            due("ways", x.ways(set), model.ways(set));
-            due("rank", x.rank(set), model.rank(set));
-        }
-        for (int k = -2; k < 20; k++) {
-            due("cluster", x.cluster(k), model.cluster(k));
-            due("square", x.square(k), model.square(k));
-            for (int i = 0; i <= 9; i++) {
-                due("lower", x.lower(k, i), model.lower(k, i));
-                due("upper", x.upper(k, i), model.upper(k, i));
-            }
-        }
     }
 
     // ---- texts ----

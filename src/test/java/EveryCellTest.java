@@ -1,0 +1,187 @@
+import java.util.ArrayList;
+import java.util.Arrays;
+import java.util.HashMap;
+import java.util.List;
+import java.util.Map;
+
+/** Every CELL of N 2 to 4 asked all, of N 5 and 6 asked most; and the laws that hold for all CELLS up to N 8. */
+public final class EveryCellTest {
+    private static final int[] CELLS = {0, 0, 5, 16, 65, 326, 1957, 13700, 109601};
+
+    private EveryCellTest() {
+    }
+
+    public static void main(String[] args) {
+        Check.due("no CELL asked", new GrassCells().bases(), -1);
+        Compare.all("no CELL", new GrassCells(), new Model());
+        for (int n = 2; n <= 6; n++) {
+            List<int[]> all = new ArrayList<>();
+            list(new int[n + 1], 1, 0, all);
+            Check.due("CELLS of " + n, all.size(), CELLS[n]);
+            for (int[] f : all) {
+                against(f, n);
+            }
+            sizes(all, n);
+        }
+        toldInThreeWays(7);
+        toldInThreeWays(8);
+        Check.close("EveryCellTest");
+    }
+
+    static void list(int[] f, int at, int taken, List<int[]> all) {
+        int n = f.length - 1;
+        if (at > n) {
+            all.add(f.clone());
+            return;
+        }
+        for (int value = at; value <= at + n; value++) {
+            if ((taken >> value % n & 1) == 0) {
+                f[at] = value;
+                list(f, at + 1, taken | 1 << value % n, all);
+            }
+        }
+    }
+
+    private static String perm(int[] f) {
+        StringBuilder text = new StringBuilder("perm");
+        for (int i = 1; i < f.length; i++) {
+            text.append(' ').append(f[i]);
+        }
+        return text.toString();
+    }
+
+    private static void against(int[] f, int n) {
+        String text = perm(f);
+        GrassCells x = Check.told(text);
+        Model model = new Model();
+        for (int from = 0; from < text.length(); from += 20) {
+            model.feed(Check.word(text, from), Check.word(text, from + 4), Check.word(text, from + 8),
+                    Check.word(text, from + 12), Check.word(text, from + 16));
+        }
+        model.end(text.length());
+        model.cell();
+        if (n < 6 || Arrays.hashCode(f) % 16 == 0) {
+            Compare.all(text, x, model);
+        }
+        if (n <= 4) {
+            Compare.pairs(text, x, model);
+        }
+        toldAgain(x, text);
+        symmetries(text, x, model);
+    }
+
+    private static void symmetries(String text, GrassCells x, Model model) {
+        x.turn();
+        model.turn();
+        sameF(text + " turned", x, model);
+        x.mirror();
+        model.mirror();
+        sameF(text + " turned and mirrored", x, model);
+        x.complement();
+        model.complement();
+        sameF(text + " turned, mirrored and complemented", x, model);
+        x.undo();
+        x.undo();
+        Check.due(text + ": undo", x.undo(), 1);
+        Check.due(text + " undone", Check.perm(x).equals(text), true);
+    }
+
+    private static void sameF(String name, GrassCells x, Model model) {
+        for (int i = 1; i <= x.count(0); i++) {
+            Check.due(name + ": f(" + i + ")", x.f(i), model.f(i));
+        }
+    }
+
+    private static void sizes(List<int[]> all, int n) {
+        Map<String, Integer> counts = new HashMap<>();
+        for (int[] f : all) {
+            GrassCells x = Check.told(perm(f));
+            counts.merge(x.count(1) + "," + x.count(2), 1, Integer::sum);
+        }
+        GrassCells x = new GrassCells();
+        for (int k = 0; k <= n; k++) {
+            for (int dim = 0; dim <= 20; dim++) {
+                Check.due("howMany(" + n + ", " + k + ", " + dim + ")", x.howMany(n, k, dim),
+                        counts.getOrDefault(k + "," + dim, 0));
+            }
+        }
+    }
+
+    private static void toldInThreeWays(int n) {
+        List<int[]> all = new ArrayList<>();
+        list(new int[n + 1], 1, 0, all);
+        Check.due("CELLS of " + n, all.size(), CELLS[n]);
+        for (int at = 0; at < all.size(); at += n == 7 ? 5 : 37) {
+            String text = perm(all.get(at));
+            toldAgain(Check.told(text), text);
+        }
+    }
+
+    // as a filled diagram and as a NECKLACE a CELL tells itself again; its counts fit each other
+    private static void toldAgain(GrassCells x, String text) {
+        int n = x.count(0);
+        Check.due(text + ": F again", Check.perm(x).equals(text), true);
+        Check.due(text + ": F of " + fill(x), Check.perm(Check.told(fill(x))).equals(text), true);
+        if (x.count(1) > 0) {
+            Check.due(text + ": F of " + neck(x), Check.perm(Check.told(neck(x))).equals(text), true);
+        }
+        Check.due(text + ": DIM and INVERSIONS", x.count(2) + x.count(3), x.count(1) * (n - x.count(1)));
+        Check.due(text + ": SETS of the CLUSTER", x.cluster(-1), x.count(2) + 1);
+        threeTerms(x, text);
+    }
+
+    private static String fill(GrassCells x) {
+        int n = x.count(0);
+        StringBuilder path = new StringBuilder("fill ");
+        StringBuilder rows = new StringBuilder();
+        for (int i = 1; i <= n; i++) {
+            boolean first = (x.neck(1) >> (i - 1) & 1) != 0;
+            path.append(first ? 'd' : 'l');
+            rows.append(first ? "/" : "");
+            for (int j = n; j > i; j--) {
+                if (x.box(i, j) >= 0) {
+                    rows.append(x.box(i, j) == 1 ? '+' : '0');
+                }
+            }
+        }
+        return path.append(rows).toString();
+    }
+
+    private static String neck(GrassCells x) {
+        StringBuilder text = new StringBuilder("neck");
+        for (int i = 1; i <= x.count(0); i++) {
+            text.append(' ').append(Model.digits(x.neck(i)));
+        }
+        return text.toString();
+    }
+
+    // WAYS of S with ac times S with bd: S with ab times S with cd, and S with ad times S with bc
+    private static void threeTerms(GrassCells x, String text) {
+        int n = x.count(0);
+        int all = 0;
+        for (int set = 0; set < 1 << n; set++) {
+            if (x.ways(set) > 0) {
+                all++;
+            }
+            if (Integer.bitCount(set) == x.count(1) - 2) {
+                for (int a = 1; a <= n; a++) {
+                    for (int b = a + 1; b <= n; b++) {
+                        threeTerms(x, text, set, 1 << (a - 1), 1 << (b - 1));
+                    }
+                }
+            }
+        }
+        Check.due(text + ": SETS with WAYS", all, x.bases());
+    }
+
+    private static void threeTerms(GrassCells x, String text, int set, int a, int b) {
+        for (int c = 2 * b; c < 1 << x.count(0); c *= 2) {
+            for (int d = 2 * c; d < 1 << x.count(0); d *= 2) {
+                if ((set & (a | b | c | d)) == 0) {
+                    Check.due(text + ": three terms", x.ways(set | a | c) * x.ways(set | b | d),
+                            x.ways(set | a | b) * x.ways(set | c | d) + x.ways(set | a | d) * x.ways(set | b | c));
+                }
+            }
+        }
+    }
+}
