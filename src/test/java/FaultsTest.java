@@ -58,7 +58,11 @@ public final class FaultsTest {
         fault("per 1 2", 0, 1);
         fault("  per", 2, 1);
         fault("permx 1 2", 0, 1);
-        fault("perms", 0, 1);
+        fault("perma 1 2", 0, 1);
+        fault("permz 1 2", 0, 1);
+        fault("perm` 1 2", 4, 1);
+        fault("perm{ 1 2", 4, 1);
+        fault("aerm 1 2", 0, 1);
         fault("Perm 1 2", 0, 1);
         fault("1 2", 0, 1);
         fault(" /", 1, 1);
@@ -153,6 +157,7 @@ public final class FaultsTest {
         fault("neck 12 23 34 34", 14, 3);
         well("neck 12 23 34 24", "perm 3 4 6 5");
         fault("neck 1 1 2", 9, 3);
+        fault("neck 1 1 3", 9, 3);
     }
 
     private static void whatAFaultLeaves() {
