@@ -4,7 +4,7 @@ import java.util.HashMap;
 import java.util.List;
 import java.util.Map;
 
-/** Every CELL of N 2 to 4 asked all, of N 5 and 6 asked most; and the laws that hold for all CELLS up to N 8. */
+/** CELLS of N 2 to 6 against the model (of N 6 one in 16 whole), and laws that hold for all, on samples of N 7 and 8. */
 public final class EveryCellTest {
     private static final int[] CELLS = {0, 0, 5, 16, 65, 326, 1957, 13700, 109601};
 
