@@ -2,6 +2,8 @@
 final class Check {
     private static int right = 0;
     private static int wrong = 0;
+    private static int sentences = 0;
+    private static String sentence = "";
 
     private Check() {
     }
@@ -13,8 +15,20 @@ final class Check {
         }
         wrong++;
         if (wrong <= 50) {
-            System.out.println(call + " answered " + got + ", due is " + want);
+            System.out.println(sentence + call + " answered " + got + ", due is " + want);
         }
+    }
+
+    /** The calls that hold the class to one sentence of the document; wrong answers among them bear its name. */
+    static void holds(String name, Runnable calls) {
+        int before = right + wrong;
+        sentence = name + " -- ";
+        calls.run();
+        if (right + wrong == before) {
+            due("no call", 0, 1);
+        }
+        sentence = "";
+        sentences++;
     }
 
     static void due(String call, boolean got, boolean want) {
@@ -22,7 +36,8 @@ final class Check {
     }
 
     static void close(String test) {
-        System.out.println(test + ": " + right + " answers right, " + wrong + " wrong");
+        String of = sentences > 0 ? " of " + sentences + " sentences" : "";
+        System.out.println(test + ": " + right + " answers" + of + " right, " + wrong + " wrong");
         if (wrong > 0 || right == 0) {
             System.exit(1);
         }
