@@ -23,7 +23,11 @@ final class Check {
     static void holds(String name, Runnable calls) {
         int before = right + wrong;
         sentence = name + " -- ";
-        calls.run();
+        try {
+            calls.run();
+        } catch (RuntimeException thrown) {
+            due(thrown.toString(), 1, 0);
+        }
         if (right + wrong == before) {
             due("no call", 0, 1);
         }

@@ -1,3 +1,6 @@
+import java.util.Set;
+import java.util.TreeSet;
+
 /** Parts II and III of "Terms": a test for each sentence that names an edge, by CELLS worked out by hand. */
 public final class TermEdgesTest {
     private static final String TOP = "perm 3 4 5 6";
@@ -21,6 +24,7 @@ public final class TermEdgesTest {
         clusters();
         laidAnew();
         squares();
+        severalSquares();
         moves();
         closures();
         nextOnes();
@@ -424,7 +428,7 @@ public final class TermEdgesTest {
         });
         Check.holds("Terms, CLUSTER: laid anew, it has nothing of the CELL ahead", () -> {
             String[] texts = {"perm 4 5 6 7 8 9", "perm 3 4 5 6 7 8", "perm 4 5 6 7 8", "perm 3 4 5 6 7", TOP,
-                "perm 4 3 5 6", "perm 3 4 6 5", LOOSE, "perm 1 2", "perm 2 3", "perm 5 4 6 8 9 7"};
+                "perm 5 6 3 4 7 8", "perm 4 3 5 6", "perm 3 4 6 5", LOOSE, "perm 1 2", "perm 2 3", "perm 5 4 6 8 9 7"};
             for (String ahead : texts) {
                 for (String text : texts) {
                     GrassCells x = Check.told(ahead);
@@ -488,6 +492,74 @@ public final class TermEdgesTest {
             due("at 134: 124, 234, 345, 145", y.square(1), set("134"));
             due("at 125: 124, 145, 156, 126", y.square(2), set("125"));
             due("at 145 there is none", y.move(set("145")), -2);
+        });
+    }
+
+    // how many a, c, b, d there are for a MOVE at X, in their order; the first one's SET in first[0]
+    private static int squaresAt(int set, int n, Set<Integer> cluster, int[] first) {
+        int all = 0;
+        for (int a = 1; a <= n; a++) {
+            for (int c = a + 1; c <= n; c++) {
+                for (int b = a + 1; b < c; b++) {
+                    for (int d = 1; d <= n; d++) {
+                        int ac = 1 << (a - 1) | 1 << (c - 1);
+                        int bd = 1 << (b - 1) | 1 << (d - 1);
+                        boolean laid = (d < a || d > c) && (set & ac) == ac && (set & bd) == 0;
+                        int rest = set & ~ac;
+                        if (laid && cluster.contains(rest | 1 << (a - 1) | 1 << (b - 1))
+                                && cluster.contains(rest | 1 << (c - 1) | 1 << (b - 1))
+                                && cluster.contains(rest | 1 << (c - 1) | 1 << (d - 1))
+                                && cluster.contains(rest | 1 << (a - 1) | 1 << (d - 1))) {
+                            first[0] = all == 0 ? rest | bd : first[0];
+                            all++;
+                        }
+                    }
+                }
+            }
+        }
+        return all;
+    }
+
+    private static void moveAtEach(GrassCells x, int n) {
+        Set<Integer> cluster = new TreeSet<>();
+        int size = x.cluster(-1);
+        for (int k = 0; k < size; k++) {
+            cluster.add(x.cluster(k));
+        }
+        for (int i = 1; i <= n; i++) {
+            int[] first = {-2};
+            due("SQUARES at one of the NECKLACE", squaresAt(x.neck(i), n, cluster, first), 0);
+        }
+        int squares = 0;
+        for (int set : cluster) {
+            int[] first = {-2};
+            int several = squaresAt(set, n, cluster, first);
+            Check.due("several at " + set, several > 1, false);
+            if (several > 0) {
+                due("square(" + squares + ")", x.square(squares), set);
+                squares++;
+                due("move(" + set + ")", x.move(set), first[0]);
+                x.undo();
+            }
+        }
+        due("SQUARES", x.square(-1), squares);
+    }
+
+    private static void severalSquares() {
+        Check.holds("Terms, SQUARE: the first of several such, by a, c, b, d (there never are two at one X, and none "
+                + "is at one of the NECKLACE)", () -> {
+            String[] texts = {TOP, "perm 3 4 5 6 7", "perm 4 5 6 7 8 9", "perm 4 5 6 7 8 9 10 11",
+                "perm 5 6 7 8 9 10 11 12", "perm 5 4 6 8 9 7", "perm 5 6 3 4 7 8", "perm 6 5 7 8 9 10 12 11"};
+            for (String text : texts) {
+                GrassCells x = Check.told(text);
+                int n = x.count(0);
+                moveAtEach(x, n);
+                for (int step = 0; step < 4; step++) {
+                    int all = x.square(-1);
+                    x.move(x.square(all > 0 ? 7 * step % all : 0));
+                    moveAtEach(x, n);
+                }
+            }
         });
     }
 

@@ -491,22 +491,21 @@ public final class TextEdgesTest {
     }
 
     private static void behind() {
-        Check.holds("Terms, LE: behind the i-th SET can stand the same, if that has not i", () -> {
+        Check.holds("Terms, SET behind the i-th: the same, if that has not i", () -> {
             well("neck 2 2", "perm 1 4");
             fault("neck 2 1", 7, 3);
             well("neck 13 13 13", "perm 4 2 6");
             fault("neck 13 13 12", 11, 3);
             well("neck 1 1 1", "perm 4 2 3");
         });
-        Check.holds("Terms, LE: behind the i-th SET, if that has i, it can stand without i and with one "
-                + "label more", () -> {
+        Check.holds("Terms, SET behind the i-th: if that has i, without i and with one label more", () -> {
             well("neck 1 2", "perm 2 3");
             well("neck 12 23 13", "perm 3 4 5");
             well("neck 12 24 34 14", "perm 4 3 5 6");
             fault("neck 12 13 13", 8, 3);
             fault("neck 12 34 34 14", 8, 3);
         });
-        Check.holds("Terms, LE: .. with one label more (i, perhaps)", () -> {
+        Check.holds("Terms, SET behind the i-th: .. with one label more (i, perhaps)", () -> {
             well("neck 1 1", "perm 3 2");
             well("neck 12 12 12", "perm 4 5 3");
             well("neck 13 23 13", "perm 2 4 6");
