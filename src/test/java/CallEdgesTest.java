@@ -66,6 +66,7 @@ public final class CallEdgesTest {
     }
 
     private static void newObject() {
+        Check.holds("The constants: NONE = -1", () -> due("NONE", GrassCells.NONE, -1));
         Check.holds("Promise 1, a new object: no CELL", () -> {
             GrassCells x = new GrassCells();
             due("f(1)", x.f(1), -1);

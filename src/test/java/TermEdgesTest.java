@@ -1,5 +1,7 @@
+import java.util.List;
 import java.util.Set;
 import java.util.TreeSet;
+import java.util.function.Consumer;
 
 /** Parts II and III of "Terms": a test for each sentence that names an edge, by CELLS worked out by hand. */
 public final class TermEdgesTest {
@@ -425,6 +427,21 @@ public final class TermEdgesTest {
             cluster("DOWN", x, "12 13 23 14");
             x.up(0);
             cluster("UP", x, "12 13 23 14 34");
+        });
+        Check.holds("Terms, CLUSTER: it is laid anew when TURN, MIRROR, COMPLEMENT change the CELL", () -> {
+            List<Consumer<GrassCells>> acts = List.of(x -> x.turn(), x -> x.mirror(), x -> x.complement());
+            for (Consumer<GrassCells> act : acts) {
+                GrassCells x = Check.told("perm 3 4 6 5 7");
+                String before = Check.perm(x);
+                due("SQUARES", x.square(-1), 1);
+                due("move(13)", x.move(set("13")), set("24"));
+                act.accept(x);
+                Check.due("another CELL", Check.perm(x).equals(before), false);
+                GrassCells y = Check.told(Check.perm(x));
+                for (int k = -1; k <= y.cluster(-1); k++) {
+                    due("cluster(" + k + ")", x.cluster(k), y.cluster(k));
+                }
+            }
         });
         Check.holds("Terms, CLUSTER: laid anew, it has nothing of the CELL ahead", () -> {
             String[] texts = {"perm 4 5 6 7 8 9", "perm 3 4 5 6 7 8", "perm 4 5 6 7 8", "perm 3 4 5 6 7", TOP,
