@@ -711,7 +711,9 @@ public final class GrassCells {
                         return column < label ? column + n : column;
                     }
                 }
-                leftwards ^= isPlus(row, column);
+                if (isPlus(row, column)) {
+                    leftwards = !leftwards;
+                }
             }
             return label;
         }

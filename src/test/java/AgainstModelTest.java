@@ -1,16 +1,21 @@
 import java.util.ArrayList;
 import java.util.List;
 import java.util.Random;
+import java.util.function.ToLongFunction;
 
-/** Runs of calls drawn by a fixed seed, each answered by the class and by the slow model. */
+/**
+ * Runs of calls drawn by a fixed seed, each answered by the class and by the slow model; behind them all that can be
+ * asked, of objects led through the same run anew.
+ */
 public final class AgainstModelTest {
-    private static final int RUNS = 200;
-    private static final int CALLS = 512;
+    private static final int RUNS = 300;
+    private static final int CALLS = 320;
 
     private final Random random;
     private final String name;
     private final GrassCells x = new GrassCells();
     private final Model model = new Model();
+    private final List<ToLongFunction<GrassCells>> drawn = new ArrayList<>();
 
     private AgainstModelTest(int run) {
         random = new Random(77_000 + run);
@@ -25,37 +30,46 @@ public final class AgainstModelTest {
     }
 
     private void run() {
-        for (int call = 0; call < CALLS; call++) {
-            if (random.nextInt(12) == 0 || x.count(0) < 0 && random.nextInt(3) == 0) {
+        while (drawn.size() < CALLS) {
+            if (random.nextInt(12) == 0 || model.count(0) < 0 && random.nextInt(3) == 0) {
                 tell(anyText());
             } else {
                 ask(random.nextInt(25));
             }
         }
-        Compare.all(name, x, model);
+        Compare.all(name, new Fresh(this::drawnAnew, drawn.size()), model);
     }
 
-    private void due(String call, long got, long want) {
-        Check.due(name + ": " + call, got, want);
+    private GrassCells drawnAnew() {
+        GrassCells anew = new GrassCells();
+        for (ToLongFunction<GrassCells> call : drawn) {
+            call.applyAsLong(anew);
+        }
+        return anew;
+    }
+
+    private void due(String call, ToLongFunction<GrassCells> asked, long want) {
+        drawn.add(asked);
+        Check.due(name + ": " + call, asked.applyAsLong(x), want);
     }
 
     private void tell(String text) {
         if (random.nextInt(8) != 0) {
-            due("end(0)", x.end(0), model.end(0));
+            due("end(0)", o -> o.end(0), model.end(0));
         }
-        int from = x.count(9);
+        int from = model.count(9);
         for (int at = 0; at < text.length(); at += 20) {
             int[] w = new int[5];
             for (int t = 0; t < 5; t++) {
                 w[t] = Check.word(text, at + 4 * t);
             }
-            due("feed", x.feed(w[0], w[1], w[2], w[3], w[4]), model.feed(w[0], w[1], w[2], w[3], w[4]));
+            due("feed", o -> o.feed(w[0], w[1], w[2], w[3], w[4]), model.feed(w[0], w[1], w[2], w[3], w[4]));
         }
         if (random.nextInt(30) != 0) {
             int size = from + text.length();
-            due("end", x.end(size), model.end(size));
+            due("end", o -> o.end(size), model.end(size));
         }
-        due("cell of '" + text + "'", x.cell(), model.cell());
+        due("cell of '" + text + "'", o -> o.cell(), model.cell());
     }
 
     private int some(int from, int to) {
@@ -72,17 +86,17 @@ public final class AgainstModelTest {
     }
 
     private int label() {
-        return random.nextInt(15) == 0 ? anyInt() : some(0, Math.max(2, x.count(0)) + 1);
+        return random.nextInt(15) == 0 ? anyInt() : some(0, Math.max(2, model.count(0)) + 1);
     }
 
     private int anyBasis() {
-        int all = x.bases();
-        return all > 0 && random.nextInt(8) != 0 ? x.basis(random.nextInt(all)) : setOfK();
+        int all = model.bases();
+        return all > 0 && random.nextInt(8) != 0 ? model.basis(random.nextInt(all)) : setOfK();
     }
 
     private int setOfK() {
-        int n = Math.max(2, x.count(0));
-        int size = x.count(1);
+        int n = Math.max(2, model.count(0));
+        int size = model.count(1);
         int set = random.nextInt(1 << n);
         for (int tries = 0; tries < 40 && Integer.bitCount(set) != size; tries++) {
             set = random.nextInt(1 << n);
@@ -91,12 +105,12 @@ public final class AgainstModelTest {
     }
 
     private int anyClusterSet() {
-        int squares = x.square(-1);
+        int squares = model.square(-1);
         if (squares > 0 && random.nextInt(4) != 0) {
-            return x.square(random.nextInt(squares));
+            return model.square(random.nextInt(squares));
         }
-        int all = x.cluster(-1);
-        return all > 0 && random.nextInt(4) != 0 ? x.cluster(random.nextInt(all)) : setOfK();
+        int all = model.cluster(-1);
+        return all > 0 && random.nextInt(4) != 0 ? model.cluster(random.nextInt(all)) : setOfK();
     }
 
     private void ask(int which) {
@@ -106,27 +120,27 @@ public final class AgainstModelTest {
         int one = anyBasis();
         int other = anyBasis();
         switch (which) {
-            case 0: due("f", x.f(a), model.f(a)); break;
-            case 1: due("neck", x.neck(a), model.neck(a)); break;
-            case 2: due("box", x.box(a, b), model.box(a, b)); break;
-            case 3: due("bases", x.bases(), model.bases()); break;
-            case 4: due("basis", x.basis(k), model.basis(k)); break;
-            case 5: due("rank", x.rank(one ^ k), model.rank(one ^ k)); break;
-            case 6: due("exchange", x.exchange(one, other, a), model.exchange(one, other, a)); break;
-            case 7: due("part", x.part(a), model.part(a)); break;
-            case 8: due("ways", x.ways(one), model.ways(one)); break;
-            case 9: int set = setOfK(); due("cross", x.cross(one, set), model.cross(one, set)); break;
-            case 10: due("cluster", x.cluster(k), model.cluster(k)); break;
-            case 11: due("square", x.square(k), model.square(k)); break;
-            case 12: case 13: case 14: int at = anyClusterSet(); due("move", x.move(at), model.move(at)); break;
-            case 15: due("lower", x.lower(k, a), model.lower(k, a)); break;
-            case 16: due("upper", x.upper(k, a), model.upper(k, a)); break;
-            case 17: due("down", x.down(k), model.down(k)); break;
-            case 18: due("up", x.up(k), model.up(k)); break;
-            case 19: due("keep", x.keep(a - 1), model.keep(a - 1)); break;
-            case 20: due("has", x.has(a - 1), model.has(a - 1)); break;
-            case 21: due("count", x.count(k), model.count(k)); break;
-            case 22: due("undo", x.undo(), model.undo()); break;
+            case 0: due("f", o -> o.f(a), model.f(a)); break;
+            case 1: due("neck", o -> o.neck(a), model.neck(a)); break;
+            case 2: due("box", o -> o.box(a, b), model.box(a, b)); break;
+            case 3: due("bases", o -> o.bases(), model.bases()); break;
+            case 4: due("basis", o -> o.basis(k), model.basis(k)); break;
+            case 5: due("rank", o -> o.rank(one ^ k), model.rank(one ^ k)); break;
+            case 6: due("exchange", o -> o.exchange(one, other, a), model.exchange(one, other, a)); break;
+            case 7: due("part", o -> o.part(a), model.part(a)); break;
+            case 8: due("ways", o -> o.ways(one), model.ways(one)); break;
+            case 9: int set = setOfK(); due("cross", o -> o.cross(one, set), model.cross(one, set)); break;
+            case 10: due("cluster", o -> o.cluster(k), model.cluster(k)); break;
+            case 11: due("square", o -> o.square(k), model.square(k)); break;
+            case 12: case 13: case 14: int at = anyClusterSet(); due("move", o -> o.move(at), model.move(at)); break;
+            case 15: due("lower", o -> o.lower(k, a), model.lower(k, a)); break;
+            case 16: due("upper", o -> o.upper(k, a), model.upper(k, a)); break;
+            case 17: due("down", o -> o.down(k), model.down(k)); break;
+            case 18: due("up", o -> o.up(k), model.up(k)); break;
+            case 19: due("keep", o -> o.keep(a - 1), model.keep(a - 1)); break;
+            case 20: due("has", o -> o.has(a - 1), model.has(a - 1)); break;
+            case 21: due("count", o -> o.count(k), model.count(k)); break;
+            case 22: due("undo", o -> o.undo(), model.undo()); break;
             case 23: symmetry(); break;
             default: howMany(a, b, k); break;
         }
@@ -134,17 +148,18 @@ public final class AgainstModelTest {
 
     private void symmetry() {
         switch (random.nextInt(3)) {
-            case 0: due("turn", x.turn() ? 1 : 0, model.turn() ? 1 : 0); break;
-            case 1: due("mirror", x.mirror() ? 1 : 0, model.mirror() ? 1 : 0); break;
-            default: due("complement", x.complement() ? 1 : 0, model.complement() ? 1 : 0); break;
+            case 0: due("turn", o -> o.turn() ? 1 : 0, model.turn() ? 1 : 0); break;
+            case 1: due("mirror", o -> o.mirror() ? 1 : 0, model.mirror() ? 1 : 0); break;
+            default: due("complement", o -> o.complement() ? 1 : 0, model.complement() ? 1 : 0); break;
         }
         for (int i = 1; i <= 8; i++) {
-            due("f(" + i + ")", x.f(i), model.f(i));
+            int label = i;
+            due("f(" + label + ")", o -> o.f(label), model.f(label));
         }
     }
 
     private void howMany(int n, int k, int dim) {
-        due("howMany", x.howMany(n, k, dim), model.howMany(n, k, dim));
+        due("howMany", o -> o.howMany(n, k, dim), model.howMany(n, k, dim));
     }
 
     // ---- texts ----

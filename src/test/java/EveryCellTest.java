@@ -4,16 +4,17 @@ import java.util.HashMap;
 import java.util.List;
 import java.util.Map;
 
-/** CELLS of N 2 to 6 against the model (of N 6 one in 16 whole), and laws that hold for all, on samples of N 7 and 8. */
+/** CELLS of N 2 to 6 against the model (of N 6 one in 16 whole), and laws for all of them and for some of N 7 and 8. */
 public final class EveryCellTest {
     private static final int[] CELLS = {0, 0, 5, 16, 65, 326, 1957, 13700, 109601};
+    private static final int TELLING = 11;
 
     private EveryCellTest() {
     }
 
     public static void main(String[] args) {
         Check.due("no CELL asked", new GrassCells().bases(), -1);
-        Compare.all("no CELL", new GrassCells(), new Model());
+        Compare.all("no CELL", new Fresh(GrassCells::new, 0), new Model());
         for (int n = 2; n <= 6; n++) {
             List<int[]> all = new ArrayList<>();
             list(new int[n + 1], 1, 0, all);
@@ -52,7 +53,6 @@ public final class EveryCellTest {
 
     private static void against(int[] f, int n) {
         String text = perm(f);
-        GrassCells x = Check.told(text);
         Model model = new Model();
         for (int from = 0; from < text.length(); from += 20) {
             model.feed(Check.word(text, from), Check.word(text, from + 4), Check.word(text, from + 8),
@@ -60,14 +60,15 @@ public final class EveryCellTest {
         }
         model.end(text.length());
         model.cell();
+        Fresh told = new Fresh(() -> Check.told(text), TELLING);
         if (n < 6 || Arrays.hashCode(f) % 16 == 0) {
-            Compare.all(text, x, model);
+            Compare.all(text, told, model);
         }
         if (n <= 4) {
-            Compare.pairs(text, x, model);
+            Compare.pairs(text, told, model);
         }
-        toldAgain(x, text);
-        symmetries(text, x, model);
+        toldAgain(text);
+        symmetries(text, Check.told(text), model);
     }
 
     private static void symmetries(String text, GrassCells x, Model model) {
@@ -112,13 +113,13 @@ public final class EveryCellTest {
         list(new int[n + 1], 1, 0, all);
         Check.due("CELLS of " + n, all.size(), CELLS[n]);
         for (int at = 0; at < all.size(); at += n == 7 ? 5 : 37) {
-            String text = perm(all.get(at));
-            toldAgain(Check.told(text), text);
+            toldAgain(perm(all.get(at)));
         }
     }
 
     // as a filled diagram and as a NECKLACE a CELL tells itself again; its counts fit each other
-    private static void toldAgain(GrassCells x, String text) {
+    private static void toldAgain(String text) {
+        GrassCells x = Check.told(text);
         int n = x.count(0);
         Check.due(text + ": F again", Check.perm(x).equals(text), true);
         Check.due(text + ": F of " + fill(x), Check.perm(Check.told(fill(x))).equals(text), true);
@@ -127,7 +128,7 @@ public final class EveryCellTest {
         }
         Check.due(text + ": DIM and INVERSIONS", x.count(2) + x.count(3), x.count(1) * (n - x.count(1)));
         Check.due(text + ": SETS of the CLUSTER", x.cluster(-1), x.count(2) + 1);
-        threeTerms(x, text);
+        threeTerms(text);
     }
 
     private static String fill(GrassCells x) {
@@ -156,30 +157,33 @@ public final class EveryCellTest {
     }
 
     // WAYS of S with ac times S with bd: S with ab times S with cd, and S with ad times S with bc
-    private static void threeTerms(GrassCells x, String text) {
-        int n = x.count(0);
+    private static void threeTerms(String text) {
+        GrassCells x = Check.told(text);
+        int size = x.count(1);
+        long[] ways = new long[1 << x.count(0)];
         int all = 0;
-        for (int set = 0; set < 1 << n; set++) {
-            if (x.ways(set) > 0) {
-                all++;
-            }
-            if (Integer.bitCount(set) == x.count(1) - 2) {
-                for (int a = 1; a <= n; a++) {
-                    for (int b = a + 1; b <= n; b++) {
-                        threeTerms(x, text, set, 1 << (a - 1), 1 << (b - 1));
+        for (int set = 0; set < ways.length; set++) {
+            ways[set] = x.ways(set);
+            all += ways[set] > 0 ? 1 : 0;
+        }
+        Check.due(text + ": SETS with WAYS", all, x.bases());
+        for (int set = 0; set < ways.length; set++) {
+            if (Integer.bitCount(set) == size - 2) {
+                for (int a = 1; a < ways.length; a *= 2) {
+                    for (int b = 2 * a; b < ways.length; b *= 2) {
+                        threeTerms(text, ways, set, a, b);
                     }
                 }
             }
         }
-        Check.due(text + ": SETS with WAYS", all, x.bases());
     }
 
-    private static void threeTerms(GrassCells x, String text, int set, int a, int b) {
-        for (int c = 2 * b; c < 1 << x.count(0); c *= 2) {
-            for (int d = 2 * c; d < 1 << x.count(0); d *= 2) {
+    private static void threeTerms(String text, long[] ways, int set, int a, int b) {
+        for (int c = 2 * b; c < ways.length; c *= 2) {
+            for (int d = 2 * c; d < ways.length; d *= 2) {
                 if ((set & (a | b | c | d)) == 0) {
-                    Check.due(text + ": three terms", x.ways(set | a | c) * x.ways(set | b | d),
-                            x.ways(set | a | b) * x.ways(set | c | d) + x.ways(set | a | d) * x.ways(set | b | c));
+                    Check.due(text + ": three terms", ways[set | a | c] * ways[set | b | d],
+                            ways[set | a | b] * ways[set | c | d] + ways[set | a | d] * ways[set | b | c]);
                 }
             }
         }

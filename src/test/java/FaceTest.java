@@ -82,7 +82,8 @@ public final class FaceTest {
             }
             for (Field field : c.getDeclaredFields()) {
                 int how = field.getModifiers();
-                Check.due(field + " is final where it is static", !Modifier.isStatic(how) || Modifier.isFinal(how), true);
+                Check.due(field + " is final where it is static",
+                        !Modifier.isStatic(how) || Modifier.isFinal(how), true);
             }
         }
     }

@@ -13,7 +13,8 @@ import java.util.regex.Pattern;
 
 /**
  * The document's definitions taken one by one, as slowly as they are written: texts by regular expressions, LE diagrams
- * by trying all, MIRROR and COMPLEMENT by BASES, WAYS by walking all paths. The class under test shares no code with it.
+ * by trying all, MIRROR and COMPLEMENT by BASES, WAYS by walking all paths. The class under test shares no code with
+ * it.
  */
 final class Model {
     static final int NONE = -1;
